@@ -27,7 +27,8 @@ public final class YenKPaths {
     private int ranked = 0;
     private int onEveryPath = ALL_VERTICES;
 
-    // The list of different vertices that the walk stands on; last is the place of its end.
+    // The list of vertices that the walk stands on; last is the place of its end. They all differ,
+    // so there are never more than VERTICES of them and every place is inside these arrays.
     private final int[] trailVertex = new int[VERTICES];
     private final int[] trailLength = new int[VERTICES];
     private final int[] nextToTry = new int[VERTICES];

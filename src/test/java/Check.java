@@ -1,18 +1,32 @@
-/** Counts the answers that are not the ones due, and ends a test with exit code 1 if there was one. */
-final class Check {
-    static final int[] OUTSIDE = {-1, 7, 8, 49, -7, Integer.MIN_VALUE, Integer.MAX_VALUE};
-    static final int[] OUTSIDE_RANKS = {-1, 12, 13, 84, -12, Integer.MIN_VALUE, Integer.MAX_VALUE};
+import java.util.ArrayList;
+import java.util.List;
+import java.util.function.IntBinaryOperator;
+import java.util.function.IntUnaryOperator;
 
-    private static int asked = 0;
-    private static int wrong = 0;
+/**
+ * Counts the answers that are not the ones due, for each sentence of the document by itself, and
+ * ends a test with exit code 1 if there was one or if a sentence was never tested.
+ */
+final class Check {
+    private static final List<String> SENTENCES = new ArrayList<>();
+    private static final List<Integer> ASKED = new ArrayList<>();
+    private static final List<Integer> WRONG = new ArrayList<>();
 
     private Check() {
     }
 
+    /** What is asked from here on tests this sentence of the document. */
+    static void sentence(String words) {
+        SENTENCES.add(words);
+        ASKED.add(0);
+        WRONG.add(0);
+    }
+
     static void due(String call, int got, int want) {
-        asked++;
+        int here = SENTENCES.size() - 1;
+        ASKED.set(here, ASKED.get(here) + 1);
         if (got != want) {
-            wrong++;
+            WRONG.set(here, WRONG.get(here) + 1);
             System.out.println(call + " answered " + got + ", due is " + want);
         }
     }
@@ -29,7 +43,7 @@ final class Check {
         for (int i = 0; i < vertices.length; i++) {
             due("vertex(" + k + ", " + i + ")", x.vertex(k, i), vertices[i]);
         }
-        due("vertex(" + k + ", size)", x.vertex(k, vertices.length), YenKPaths.NONE);
+        due("vertex(" + k + ", " + vertices.length + ")", x.vertex(k, vertices.length), YenKPaths.NONE);
     }
 
     static void dueNoPath(YenKPaths x, int k) {
@@ -40,32 +54,61 @@ final class Check {
         }
     }
 
-    /** Sets arcs given as u, v, weight, u, v, weight, ... */
-    static YenKPaths with(int... arcs) {
-        YenKPaths x = new YenKPaths();
-        for (int i = 0; i < arcs.length; i += 3) {
-            due("arc(" + arcs[i] + ", " + arcs[i + 1] + ", " + arcs[i + 2] + ")",
-                    x.arc(arcs[i], arcs[i + 1], arcs[i + 2]), true);
-        }
-        return x;
+    /** Just this one path: its questions, and none behind it. */
+    static void dueOnlyPath(YenKPaths x, int length, int... vertices) {
+        due("paths()", x.paths(), 1);
+        duePath(x, 0, length, vertices);
+        dueNoPath(x, 1);
     }
 
-    /** All 42 arcs, with the same weight. */
-    static YenKPaths complete(int weight) {
-        YenKPaths x = new YenKPaths();
+    /** BAD for every pair of which one or both are no vertex; 320 calls. */
+    static void dueBad(String name, IntBinaryOperator question) {
+        for (int no : Sample.NO_VERTICES) {
+            for (int v = 0; v < 7; v++) {
+                due(name + "(" + no + ", " + v + ")", question.applyAsInt(no, v), YenKPaths.BAD);
+                due(name + "(" + v + ", " + no + ")", question.applyAsInt(v, no), YenKPaths.BAD);
+            }
+            due(name + "(" + no + ", " + no + ")", question.applyAsInt(no, no), YenKPaths.BAD);
+            due(name + "(" + no + ", 8)", question.applyAsInt(no, 8), YenKPaths.BAD);
+        }
+    }
+
+    static void dueNoneOutside(String name, IntUnaryOperator question) {
+        for (int k : Sample.NO_NUMBERS) {
+            due(name + "(" + k + ")", question.applyAsInt(k), YenKPaths.NONE);
+        }
+    }
+
+    /** Every question answers the same for both; 257 calls of each object's 512. */
+    static void dueSame(String after, YenKPaths x, YenKPaths twin) {
+        due("paths() " + after, x.paths(), twin.paths());
+        due("unavoidable() " + after, x.unavoidable(), twin.unavoidable());
         for (int u = 0; u < 7; u++) {
             for (int v = 0; v < 7; v++) {
-                if (u != v) {
-                    due("arc(" + u + ", " + v + ", " + weight + ")", x.arc(u, v, weight), true);
-                }
+                String arc = "(" + u + ", " + v + ") " + after;
+                due("weight" + arc, x.weight(u, v), twin.weight(u, v));
+                due("passing" + arc, x.passing(u, v), twin.passing(u, v));
+                due("avoiding" + arc, x.avoiding(u, v), twin.avoiding(u, v));
             }
         }
-        return x;
+        for (int k = 0; k < 12; k++) {
+            due("length(" + k + ") " + after, x.length(k), twin.length(k));
+            due("size(" + k + ") " + after, x.size(k), twin.size(k));
+            for (int i = 0; i < 7; i++) {
+                due("vertex(" + k + ", " + i + ") " + after, x.vertex(k, i), twin.vertex(k, i));
+            }
+        }
     }
 
     static void end() {
-        System.out.println(asked + " answers, " + wrong + " not as due");
-        if (wrong != 0 || asked == 0) {
+        boolean failed = SENTENCES.isEmpty();
+        for (int n = 0; n < SENTENCES.size(); n++) {
+            boolean holds = ASKED.get(n) > 0 && WRONG.get(n) == 0;
+            failed |= !holds;
+            System.out.println((holds ? "  holds: " : "  BROKEN: ") + SENTENCES.get(n)
+                    + " [" + ASKED.get(n) + " answers, " + WRONG.get(n) + " not as due]");
+        }
+        if (failed) {
             System.exit(1);
         }
     }

@@ -8,6 +8,7 @@ import java.util.TreeSet;
 /** The public face of the document, and nothing beside it that is not private. */
 public final class FaceTest {
     public static void main(String[] args) {
+        Check.sentence("The public face: these members and no others");
         Set<String> found = new TreeSet<>();
         for (Field field : YenKPaths.class.getDeclaredFields()) {
             if (!Modifier.isPrivate(field.getModifiers())) {

@@ -25,6 +25,7 @@ public final class LongRunsTest {
     }
 
     public static void main(String[] args) {
+        Check.sentence("All promises, in long runs of calls");
         for (int run = 0; run < RUNS; run++) {
             LongRunsTest test = new LongRunsTest(run);
             for (int round = 0; round < ROUNDS; round++) {

@@ -1,92 +1,143 @@
-/** Promise 2: arc sets or takes away, and refuses wrong inputs without a change. */
+/** Promise 2: arc. */
 public final class Promise02ArcTest {
     public static void main(String[] args) {
-        everyArcIsItsOwn();
-        edgesOfTheWeight();
+        sets();
         takesAway();
-        refusesWrongVertices();
-        refusesLoops();
-        refusesWrongWeights();
+        vertices();
+        loops();
+        weights();
+        refusedLeavesTheState();
+        elseTrue();
         Check.end();
     }
 
-    private static int weightOf(int u, int v) {
-        return u == v ? 0 : (u * 7 + v) % 50 + 1;
-    }
-
-    private static YenKPaths full() {
-        YenKPaths x = new YenKPaths();
+    private static void sets() {
+        Check.sentence("Sets the weight of the arc from u to v");
+        YenKPaths x = Sample.varied();
         for (int u = 0; u < 7; u++) {
             for (int v = 0; v < 7; v++) {
-                if (u != v) {
-                    Check.due("arc(" + u + ", " + v + ")", x.arc(u, v, weightOf(u, v)), true);
-                }
+                Check.due("weight(" + u + ", " + v + ")", x.weight(u, v), Sample.variedWeight(u, v));
             }
         }
-        return x;
-    }
-
-    private static void dueFull(String after, YenKPaths x) {
-        for (int u = 0; u < 7; u++) {
-            for (int v = 0; v < 7; v++) {
-                Check.due("weight(" + u + ", " + v + ") " + after, x.weight(u, v), weightOf(u, v));
-            }
+        YenKPaths y = new YenKPaths();
+        for (int weight : new int[] {1, 50, 2, 49, 50, 1}) {
+            Check.due("arc(0, 6, " + weight + ")", y.arc(0, 6, weight), true);
+            Check.due("weight(0, 6)", y.weight(0, 6), weight);
+            Check.dueOnlyPath(y, weight, 0, 6);
         }
-    }
-
-    private static void everyArcIsItsOwn() {
-        dueFull("after all arcs", full());
-    }
-
-    private static void edgesOfTheWeight() {
-        YenKPaths x = new YenKPaths();
-        for (int weight : new int[] {1, 50, 2, 49, 0, 50, 1}) {
-            Check.due("arc(0, 6, " + weight + ")", x.arc(0, 6, weight), true);
-            Check.due("weight(0, 6)", x.weight(0, 6), weight);
-            Check.due("length(0)", x.length(0), weight == 0 ? YenKPaths.NONE : weight);
-        }
-        Check.due("weight(6, 0)", x.weight(6, 0), 0);
+        Check.due("weight(6, 0), the other way", y.weight(6, 0), 0);
     }
 
     private static void takesAway() {
-        YenKPaths x = Check.with(0, 6, 5, 6, 0, 3, 0, 1, 2);
+        Check.sentence("weight 0 takes the arc away");
+        YenKPaths x = Sample.with(0, 6, 5, 6, 0, 3, 0, 1, 2, 1, 6, 2);
         Check.due("arc(0, 6, 0)", x.arc(0, 6, 0), true);
         Check.due("weight(0, 6)", x.weight(0, 6), 0);
         Check.due("weight(6, 0)", x.weight(6, 0), 3);
         Check.due("weight(0, 1)", x.weight(0, 1), 2);
+        Check.dueOnlyPath(x, 4, 0, 1, 6);
+        Check.due("arc(0, 6, 0) again", x.arc(0, 6, 0), true);
+        Check.due("arc(3, 4, 0), never set", x.arc(3, 4, 0), true);
+        Check.due("weight(3, 4)", x.weight(3, 4), 0);
+        Check.due("arc(1, 6, 0)", x.arc(1, 6, 0), true);
         Check.due("paths()", x.paths(), 0);
-        Check.due("arc(0, 6, 0) with no arc", x.arc(0, 6, 0), true);
-        Check.due("arc(3, 4, 0) with no arc", x.arc(3, 4, 0), true);
+        Check.due("arc(0, 6, 1)", x.arc(0, 6, 1), true);
+        Check.dueOnlyPath(x, 1, 0, 6);
+        takesAllAway();
     }
 
-    private static void refusesWrongVertices() {
-        YenKPaths x = full();
-        for (int wrong : Check.OUTSIDE) {
-            for (int right = 0; right < 7; right++) {
-                Check.due("arc(" + wrong + ", " + right + ", 50)", x.arc(wrong, right, 50), false);
-                Check.due("arc(" + right + ", " + wrong + ", 50)", x.arc(right, wrong, 50), false);
-                Check.due("arc(" + right + ", " + wrong + ", 0)", x.arc(right, wrong, 0), false);
-            }
-            Check.due("arc(" + wrong + ", " + wrong + ", 1)", x.arc(wrong, wrong, 1), false);
-        }
-        dueFull("after wrong vertices", x);
-    }
-
-    private static void refusesLoops() {
-        YenKPaths x = full();
+    private static void takesAllAway() {
+        YenKPaths x = Sample.complete(50);
         for (int u = 0; u < 7; u++) {
-            Check.due("arc(" + u + ", " + u + ", 1)", x.arc(u, u, 1), false);
-            Check.due("arc(" + u + ", " + u + ", 0)", x.arc(u, u, 0), false);
+            for (int v = 0; v < 7; v++) {
+                if (u != v) {
+                    Check.due("arc(" + u + ", " + v + ", 0)", x.arc(u, v, 0), true);
+                }
+            }
         }
-        dueFull("after loops", x);
+        Check.dueSame("after all arcs were taken away", x, new YenKPaths());
     }
 
-    private static void refusesWrongWeights() {
-        YenKPaths x = full();
-        for (int weight : new int[] {-1, 51, -50, 100, Integer.MIN_VALUE, Integer.MAX_VALUE}) {
-            Check.due("arc(0, 6, " + weight + ")", x.arc(0, 6, weight), false);
-            Check.due("arc(5, 2, " + weight + ")", x.arc(5, 2, weight), false);
+    private static void vertices() {
+        Check.sentence("u or v outside 0..6: refused, answers false");
+        for (int no : Sample.NO_VERTICES) {
+            YenKPaths x = Sample.varied();
+            for (int v = 0; v < 7; v++) {
+                for (int weight : new int[] {0, 1, 50}) {
+                    Check.due("arc(" + no + ", " + v + ", " + weight + ")", x.arc(no, v, weight), false);
+                    Check.due("arc(" + v + ", " + no + ", " + weight + ")", x.arc(v, no, weight), false);
+                }
+            }
+            Check.due("arc(" + no + ", " + no + ", 1)", x.arc(no, no, 1), false);
+            Check.due("arc(" + no + ", 8, 1)", x.arc(no, 8, 1), false);
+            Check.dueSame("after arcs of " + no, x, Sample.varied());
         }
-        dueFull("after wrong weights", x);
+    }
+
+    private static void loops() {
+        Check.sentence("u = v: refused, answers false");
+        for (int u = 0; u < 7; u++) {
+            YenKPaths x = Sample.varied();
+            for (int weight : new int[] {0, 1, 50}) {
+                Check.due("arc(" + u + ", " + u + ", " + weight + ")", x.arc(u, u, weight), false);
+            }
+            Check.dueSame("after loops at " + u, x, Sample.varied());
+        }
+    }
+
+    private static void weights() {
+        Check.sentence("weight outside 0..50: refused, answers false");
+        for (int weight : Sample.NO_WEIGHTS) {
+            YenKPaths x = Sample.varied();
+            for (int u = 0; u < 7; u++) {
+                for (int v = 0; v < 7; v++) {
+                    Check.due("arc(" + u + ", " + v + ", " + weight + ")", x.arc(u, v, weight), false);
+                }
+            }
+            Check.dueSame("after the weight " + weight, x, Sample.varied());
+        }
+    }
+
+    private static void refusedLeavesTheState() {
+        Check.sentence("refused: no arc comes, goes or changes, with no arcs and with few");
+        YenKPaths none = new YenKPaths();
+        refusedCalls(none);
+        Check.dueSame("after refused calls without arcs", none, new YenKPaths());
+        YenKPaths few = Sample.sparse();
+        refusedCalls(few);
+        Check.dueSame("after refused calls with few arcs", few, Sample.sparse());
+        YenKPaths twelve = Sample.withPaths(12);
+        refusedCalls(twelve);
+        Check.dueSame("after refused calls with 12 paths", twelve, Sample.withPaths(12));
+    }
+
+    private static void refusedCalls(YenKPaths x) {
+        for (int no : Sample.NO_VERTICES) {
+            Check.due("arc(" + no + ", 6, 1)", x.arc(no, 6, 1), false);
+            Check.due("arc(0, " + no + ", 1)", x.arc(0, no, 1), false);
+            Check.due("arc(" + no + ", " + no + ", 0)", x.arc(no, no, 0), false);
+        }
+        for (int v = 0; v < 7; v++) {
+            Check.due("arc(" + v + ", " + v + ", 1)", x.arc(v, v, 1), false);
+        }
+        for (int weight : Sample.NO_WEIGHTS) {
+            Check.due("arc(0, 6, " + weight + ")", x.arc(0, 6, weight), false);
+            Check.due("arc(2, 4, " + weight + ")", x.arc(2, 4, weight), false);
+        }
+    }
+
+    private static void elseTrue() {
+        Check.sentence("Else true");
+        for (int weight : new int[] {0, 1, 2, 49, 50}) {
+            YenKPaths x = new YenKPaths();
+            for (int u = 0; u < 7; u++) {
+                for (int v = 0; v < 7; v++) {
+                    if (u != v) {
+                        Check.due("arc(" + u + ", " + v + ", " + weight + ")", x.arc(u, v, weight), true);
+                        Check.due("the same again", x.arc(u, v, weight), true);
+                    }
+                }
+            }
+        }
     }
 }

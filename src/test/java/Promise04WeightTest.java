@@ -1,24 +1,45 @@
-/** Promise 4: the weight of an arc, 0 if there is none, BAD outside 0..6. */
+/** Promise 4: weight. */
 public final class Promise04WeightTest {
     public static void main(String[] args) {
-        YenKPaths x = Check.with(0, 6, 50, 6, 5, 1, 3, 2, 17);
+        weight();
+        none();
+        bad();
+        Check.end();
+    }
+
+    private static void weight() {
+        Check.sentence("The weight of the arc from u to v");
+        YenKPaths x = Sample.with(0, 6, 50, 6, 5, 1, 3, 2, 17);
         Check.due("weight(0, 6)", x.weight(0, 6), 50);
         Check.due("weight(6, 5)", x.weight(6, 5), 1);
         Check.due("weight(3, 2)", x.weight(3, 2), 17);
-        Check.due("weight(2, 3)", x.weight(2, 3), 0);
-        Check.due("weight(6, 0)", x.weight(6, 0), 0);
         Check.due("arc(3, 2, 18)", x.arc(3, 2, 18), true);
         Check.due("weight(3, 2) set anew", x.weight(3, 2), 18);
+        YenKPaths all = Sample.varied();
         for (int u = 0; u < 7; u++) {
-            Check.due("weight(" + u + ", " + u + ")", x.weight(u, u), 0);
-        }
-        for (int wrong : Check.OUTSIDE) {
-            for (int right = 0; right < 7; right++) {
-                Check.due("weight(" + wrong + ", " + right + ")", x.weight(wrong, right), YenKPaths.BAD);
-                Check.due("weight(" + right + ", " + wrong + ")", x.weight(right, wrong), YenKPaths.BAD);
+            for (int v = 0; v < 7; v++) {
+                Check.due("weight(" + u + ", " + v + ")", all.weight(u, v), Sample.variedWeight(u, v));
             }
-            Check.due("weight(" + wrong + ", " + wrong + ")", x.weight(wrong, wrong), YenKPaths.BAD);
         }
-        Check.end();
+    }
+
+    private static void none() {
+        Check.sentence("0 if there is none");
+        YenKPaths x = Sample.with(3, 2, 17, 0, 6, 50);
+        Check.due("weight(2, 3)", x.weight(2, 3), 0);
+        Check.due("weight(6, 0)", x.weight(6, 0), 0);
+        Check.due("arc(3, 2, 0)", x.arc(3, 2, 0), true);
+        Check.due("weight(3, 2) taken away", x.weight(3, 2), 0);
+        YenKPaths all = Sample.complete(50);
+        for (int v = 0; v < 7; v++) {
+            Check.due("weight(" + v + ", " + v + ")", all.weight(v, v), 0);
+        }
+    }
+
+    private static void bad() {
+        Check.sentence("BAD if u or v is outside 0..6");
+        for (YenKPaths x : new YenKPaths[] {new YenKPaths(), Sample.complete(50)}) {
+            Check.dueBad("weight", x::weight);
+        }
     }
 }

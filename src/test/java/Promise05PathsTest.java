@@ -1,48 +1,48 @@
-/** Promise 5: the number of paths, but 12 if there are more. */
+/** Promise 5: paths. */
 public final class Promise05PathsTest {
     public static void main(String[] args) {
-        aroundTwelve();
-        noRepeatedVertex();
-        followsTheArcs();
-        Check.due("paths() with all arcs", Check.complete(50).paths(), 12);
+        number();
+        moreThanTwelve();
         Check.end();
     }
 
-    /** Arcs are added one by one: the number of paths grows to exactly 12, then past it. */
-    private static void aroundTwelve() {
-        YenKPaths x = Check.with(1, 6, 1, 2, 6, 1, 3, 6, 1, 0, 1, 1);
-        Check.due("paths()", x.paths(), 1);
-        // From 1, 2 and 3 every list of different ones of them leads on: 3 + 6 + 6 paths in all.
-        int[] arcs = {0, 2, 0, 3, 1, 2, 2, 1, 1, 3, 3, 1, 2, 3, 3, 2};
-        int[] due = {2, 3, 4, 5, 7, 9, 12, 12};
-        for (int i = 0; i < due.length; i++) {
-            Check.due("arc", x.arc(arcs[2 * i], arcs[2 * i + 1], 1), true);
-            Check.due("paths() after arc " + i, x.paths(), due[i]);
+    private static void number() {
+        Check.sentence("The number of paths");
+        Check.due("paths() without arcs", new YenKPaths().paths(), 0);
+        Check.due("paths() with no arc to the target", Sample.withoutAWayIn().paths(), 0);
+        Check.due("paths() with arcs both ways", Sample.sparse().paths(), 5);
+        Check.due("paths() without a path", Sample.with(0, 1, 1, 1, 0, 1, 5, 6, 1, 6, 5, 1).paths(), 0);
+        Check.due("paths() with one arc", Sample.with(0, 6, 50).paths(), 1);
+        Check.due("paths() over all vertices", Sample.chain(50).paths(), 1);
+        for (int number = 0; number <= 12; number++) {
+            Check.due("paths() of " + number, Sample.withPaths(number).paths(), number);
         }
-        Check.due("arc(3, 2, 0)", x.arc(3, 2, 0), true);
-        Check.due("arc(2, 3, 0)", x.arc(2, 3, 0), true);
-        Check.due("paths()", x.paths(), 9);
-        Check.due("arc(2, 3, 1)", x.arc(2, 3, 1), true);
-        Check.due("paths(), 12 of 12", x.paths(), 12);
-        Check.due("arc(0, 6, 1)", x.arc(0, 6, 1), true);
-        Check.due("paths(), 12 of 13", x.paths(), 12);
-    }
-
-    private static void noRepeatedVertex() {
-        YenKPaths x = Check.with(0, 1, 1, 1, 2, 1, 2, 1, 1, 1, 0, 1, 2, 0, 1, 6, 1, 1, 6, 0, 1, 1, 6, 9);
-        Check.due("paths()", x.paths(), 1);
-        Check.duePath(x, 0, 10, 0, 1, 6);
-        Check.dueNoPath(x, 1);
-    }
-
-    private static void followsTheArcs() {
-        YenKPaths x = Check.with(0, 1, 1, 2, 6, 1, 6, 5, 1, 6, 0, 1);
-        Check.due("paths()", x.paths(), 0);
+        YenKPaths x = Sample.with(0, 1, 1, 2, 6, 1, 6, 5, 1, 6, 0, 1);
+        Check.due("paths() with a gap", x.paths(), 0);
         Check.due("arc(1, 2, 1)", x.arc(1, 2, 1), true);
-        Check.due("paths()", x.paths(), 1);
+        Check.due("paths() without it", x.paths(), 1);
         Check.due("ends(6, 0)", x.ends(6, 0), true);
         Check.due("paths() backwards", x.paths(), 1);
         Check.due("ends(5, 0)", x.ends(5, 0), true);
         Check.due("paths() from a dead end", x.paths(), 0);
+    }
+
+    private static void moreThanTwelve() {
+        Check.sentence("but 12 if there are more than 12");
+        for (int number = 13; number <= 31; number++) {
+            Check.due("paths() of " + number, Sample.withPaths(number).paths(), 12);
+        }
+        Check.due("paths() of 326", Sample.complete(50).paths(), 12);
+        // Over 12 and back again, one arc at a time.
+        YenKPaths x = Sample.withPaths(11);
+        Check.due("paths() of 11", x.paths(), 11);
+        Check.due("arc(0, 6, 50)", x.arc(0, 6, 50), true);
+        Check.due("paths() of 12", x.paths(), 12);
+        Check.due("arc(3, 6, 50)", x.arc(3, 6, 50), true);
+        Check.due("paths() of 16", x.paths(), 12);
+        Check.due("arc(3, 6, 0)", x.arc(3, 6, 0), true);
+        Check.due("paths() of 12", x.paths(), 12);
+        Check.due("arc(1, 6, 0)", x.arc(1, 6, 0), true);
+        Check.due("paths() of 11", x.paths(), 11);
     }
 }

@@ -1,21 +1,20 @@
-/** Promise 12: avoiding tests BAD before NONE. */
+/** Promise 12: order and limits. */
 public final class Promise12OrderTest {
     public static void main(String[] args) {
-        wrongVertices(new YenKPaths());
-        wrongVertices(Check.with(0, 6, 1));
-        wrongVertices(Check.complete(1));
-        Check.due("avoiding(0, 6) without a path", new YenKPaths().avoiding(0, 6), YenKPaths.NONE);
-        Check.due("avoiding(3, 3) without a path", new YenKPaths().avoiding(3, 3), YenKPaths.NONE);
+        badBeforeNone();
         Check.end();
     }
 
-    private static void wrongVertices(YenKPaths x) {
-        for (int wrong : Check.OUTSIDE) {
-            for (int right = 0; right < 7; right++) {
-                Check.due("avoiding(" + wrong + ", " + right + ")", x.avoiding(wrong, right), YenKPaths.BAD);
-                Check.due("avoiding(" + right + ", " + wrong + ")", x.avoiding(right, wrong), YenKPaths.BAD);
+    private static void badBeforeNone() {
+        Check.sentence("avoiding: BAD is tested before NONE");
+        // In neither object is there a path, so every vertex inside 0..6 is answered with NONE.
+        for (YenKPaths x : new YenKPaths[] {new YenKPaths(), Sample.withoutAWayIn()}) {
+            Check.dueBad("avoiding", x::avoiding);
+            for (int u = 0; u < 7; u++) {
+                for (int v = 0; v < 7; v++) {
+                    Check.due("avoiding(" + u + ", " + v + ")", x.avoiding(u, v), YenKPaths.NONE);
+                }
             }
-            Check.due("avoiding(" + wrong + ", " + wrong + ")", x.avoiding(wrong, wrong), YenKPaths.BAD);
         }
     }
 }

@@ -1,33 +1,36 @@
-import java.util.ArrayList;
-import java.util.List;
+import java.util.LinkedHashMap;
+import java.util.Map;
 import java.util.function.IntBinaryOperator;
 import java.util.function.IntUnaryOperator;
 
 /**
- * Counts the answers that are not the ones due, for each sentence of the document by itself, and
- * ends a test with exit code 1 if there was one or if a sentence was never tested.
+ * Counts the answers that are not the ones due, for each sentence of the document by itself, prints
+ * the first of them, and ends a test with exit code 1 if there was one or if a sentence was never
+ * tested.
  */
 final class Check {
-    private static final List<String> SENTENCES = new ArrayList<>();
-    private static final List<Integer> ASKED = new ArrayList<>();
-    private static final List<Integer> WRONG = new ArrayList<>();
+    private static final int ASKED = 0;
+    private static final int WRONG = 1;
+    // A class that is quite broken would else fill the log with the same fault.
+    private static final int MOST_PRINTED = 20;
+    private static final Map<String, int[]> COUNTS = new LinkedHashMap<>();
+    private static int[] here = null;
 
     private Check() {
     }
 
-    /** What is asked from here on tests this sentence of the document. */
+    /** What is asked from here on tests this sentence of the document; a test may come back to it. */
     static void sentence(String words) {
-        SENTENCES.add(words);
-        ASKED.add(0);
-        WRONG.add(0);
+        here = COUNTS.computeIfAbsent(words, unused -> new int[2]);
     }
 
     static void due(String call, int got, int want) {
-        int here = SENTENCES.size() - 1;
-        ASKED.set(here, ASKED.get(here) + 1);
+        here[ASKED]++;
         if (got != want) {
-            WRONG.set(here, WRONG.get(here) + 1);
-            System.out.println(call + " answered " + got + ", due is " + want);
+            here[WRONG]++;
+            if (here[WRONG] <= MOST_PRINTED) {
+                System.out.println(call + " answered " + got + ", due is " + want);
+            }
         }
     }
 
@@ -101,12 +104,14 @@ final class Check {
     }
 
     static void end() {
-        boolean failed = SENTENCES.isEmpty();
-        for (int n = 0; n < SENTENCES.size(); n++) {
-            boolean holds = ASKED.get(n) > 0 && WRONG.get(n) == 0;
+        boolean failed = COUNTS.isEmpty();
+        for (Map.Entry<String, int[]> entry : COUNTS.entrySet()) {
+            int asked = entry.getValue()[ASKED];
+            int wrong = entry.getValue()[WRONG];
+            boolean holds = asked > 0 && wrong == 0;
             failed |= !holds;
-            System.out.println((holds ? "  holds: " : "  BROKEN: ") + SENTENCES.get(n)
-                    + " [" + ASKED.get(n) + " answers, " + WRONG.get(n) + " not as due]");
+            System.out.println((holds ? "  holds: " : "  BROKEN: ") + entry.getKey()
+                    + " [" + asked + " answers, " + wrong + " not as due]");
         }
         if (failed) {
             System.exit(1);
